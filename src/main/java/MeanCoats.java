@@ -118,7 +118,7 @@ public final class MeanCoats {
             return finding(BEYOND);
         }
         int was = town.tell(body, OF_HERE);
-        town.here = is ? town.here | 1 << body : town.here & ~(1 << body);
+        town.here = is ? town.here | (1 << body) : town.here & ~(1 << body);
         return was;
     }
 
@@ -434,7 +434,7 @@ public final class MeanCoats {
         }
         tailor.measureAll(town);
         int sets = 0;
-        for (int set = 1; set < 1 << town.bodies; set++) {
+        for (int set = 1; set < (1 << town.bodies); set++) {
             sets += cutsAsIn(spring, set) ? 1 : 0;
         }
         return sets;
@@ -447,7 +447,7 @@ public final class MeanCoats {
         tailor.measureAll(town);
         int inAll = -1;
         int inAny = 0;
-        for (int set = 1; set < 1 << town.bodies; set++) {
+        for (int set = 1; set < (1 << town.bodies); set++) {
             if (cutsAsIn(spring, set)) {
                 inAll &= set;
                 inAny |= set;
@@ -493,7 +493,7 @@ public final class MeanCoats {
             return finding(FULL);
         }
         for (int i = n - 1; i >= 0; i--) {
-            tape.add(bytes >>> 8 * i & 255);
+            tape.add((bytes >>> (8 * i)) & 255);
         }
         return tape.length;
     }
@@ -683,6 +683,10 @@ public final class MeanCoats {
         return v >= least && v <= most;
     }
 
+    private static boolean holds(int set, int body) {
+        return ((set >> body) & 1) != 0;
+    }
+
     private static boolean isKind(int kind) {
         return within(kind, BODY, SLY);
     }
@@ -787,6 +791,7 @@ public final class MeanCoats {
         return tailor.costOf(town, body);
     }
 
+    /** The coat must have been cut; the body is left shown by the last bribe that was tried. */
     private int bestBribe(int body) {
         int found = 0;
         int least = Integer.MAX_VALUE;
@@ -799,7 +804,6 @@ public final class MeanCoats {
                 found = bribe;
             }
         }
-        costAtBribe(body, town.tell(body, OF_BRIBE));
         return found;
     }
 
@@ -935,7 +939,7 @@ public final class MeanCoats {
         }
 
         private boolean isHere(int body) {
-            return (here >> body & 1) != 0;
+            return holds(here, body);
         }
 
         private boolean bribesHere(int body) {
@@ -1091,7 +1095,7 @@ public final class MeanCoats {
         private int sumOf(int measure, int set) {
             int sum = 0;
             for (int b = 0; b < bodies; b++) {
-                if ((set >> b & 1) != 0) {
+                if (holds(set, b)) {
                     sum += shown[measure * MOST_BODIES + b] * times[b];
                 }
             }
@@ -1101,7 +1105,7 @@ public final class MeanCoats {
         private int timesOf(int set) {
             int sum = 0;
             for (int b = 0; b < bodies; b++) {
-                if ((set >> b & 1) != 0) {
+                if (holds(set, b)) {
                     sum += times[b];
                 }
             }
@@ -1113,7 +1117,7 @@ public final class MeanCoats {
             int place = (timesOf(set) - 1) / 2;
             for (int i = 0; i < bodies; i++) {
                 int body = rising[row + i];
-                if ((set >> body & 1) != 0) {
+                if (holds(set, body)) {
                     place -= times[body];
                     if (place < 0) {
                         return shown[row + body];
@@ -1127,7 +1131,7 @@ public final class MeanCoats {
             int row = measure * MOST_BODIES;
             for (int i = bodies - 1; i >= 0; i--) {
                 int body = rising[row + i];
-                if ((set >> body & 1) != 0) {
+                if (holds(set, body)) {
                     return shown[row + body];
                 }
             }
@@ -1159,7 +1163,7 @@ public final class MeanCoats {
         private int fitting(Town town, int set) {
             int fit = 0;
             for (int b = 0; b < bodies; b++) {
-                if ((set >> b & 1) != 0 && costOf(town, b) <= town.ease) {
+                if (holds(set, b) && costOf(town, b) <= town.ease) {
                     fit |= 1 << b;
                 }
             }
@@ -1452,7 +1456,7 @@ public final class MeanCoats {
 
         private void put(int i, int v) {
             int unused = 32 - bits;
-            numbers[i] = v << unused >> unused;
+            numbers[i] = (v << unused) >> unused;
         }
 
         private boolean has(int from, int n) {

@@ -829,6 +829,8 @@ public final class PromisesTest {
         fault(x, "100", 0);
         fault(x, "bodyx 100 100 100", 0);
         fault(x, "bod 100 100 100", 0);
+        fault(x, "cody 100 100 100", 0);
+        fault(x, "bodz 100 100 100", 0);
         fault(x, "pins 5", 0);
         fault(x, "mean", 0);
         fault(x, "body 100 100 100;", 17);
@@ -867,6 +869,9 @@ public final class PromisesTest {
         fault(x, "ease 3\u00e9", 6);
         fault(x, "ease 3;rule most;price 2;body 1", 30);
         fault(x, "ease 3;rule most;price 2:", 24);
+        fault(x, ";".repeat(120), 0);
+        fault(x, "ease 3;" + "-".repeat(113), 7);
+        fault(x, " ".repeat(120), 120);
         fault(x, "`", 0);
         fault(x, "{", 0);
         fault(x, "ease /", 5);
@@ -1069,14 +1074,14 @@ public final class PromisesTest {
         due("43 sheet -1", x.load(-1), BEYOND);
         x.here(1, false);
         x.sheet(0, 16, 12);
-        for (int i = 0; i < 12; i++) x.write(0, i, 240 + i);
+        for (int i = 0; i < 12; i++) x.write(0, i, 239 + i);
         due("43 bodies that there are", x.load(0), 3);
-        dueAll("43 those of 1", new int[] {x.bodyOf(1, 1), x.bodyOf(1, 2), x.bodyOf(1, 3)}, 243, 244, 245);
+        dueAll("43 those of 1", new int[] {x.bodyOf(1, 1), x.bodyOf(1, 2), x.bodyOf(1, 3)}, 242, 243, 244);
         for (int i = 0; i < 9; i++) x.write(0, i, 50 + i);
         x.write(0, 5, 49);
         due("43 49", x.load(0), 1);
         dueAll("43 of 0", new int[] {x.bodyOf(0, 1), x.bodyOf(0, 2), x.bodyOf(0, 3)}, 50, 51, 52);
-        dueAll("43 none of 1", new int[] {x.bodyOf(1, 1), x.bodyOf(1, 2), x.bodyOf(1, 3)}, 243, 244, 245);
+        dueAll("43 none of 1", new int[] {x.bodyOf(1, 1), x.bodyOf(1, 2), x.bodyOf(1, 3)}, 242, 243, 244);
         for (int i = 3; i < 6; i++) {
             x.write(0, 3, 250);
             x.write(0, 4, 250);
@@ -1093,6 +1098,10 @@ public final class PromisesTest {
         due("43 with its sign", x.load(1), 0);
         x.sheet(1, 8, 0);
         due("43 of none", x.load(1), 0);
+        for (int b = 3; b < 12; b++) x.body(0);
+        x.sheet(1, 16, 40);
+        for (int i = 0; i < 40; i++) x.write(1, i, 100);
+        due("43 all twelve", x.load(1), 12);
     }
 
     private static void promise44() {
@@ -1121,6 +1130,12 @@ public final class PromisesTest {
         x.here(1, false);
         due("44 no coat", x.judge(0), NONE);
         due("44 no coat, missing", x.judge(1), MISSING);
+        MeanCoats all = new MeanCoats();
+        for (int b = 0; b < 12; b++) all.body(0);
+        all.sheet(0, 8, 12);
+        due("44 all twelve", all.judge(0), 0);
+        all.sheet(0, 8, 40);
+        due("44 more than twelve", all.judge(0), 13);
     }
 
     private static void promise45() {
