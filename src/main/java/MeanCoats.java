@@ -32,6 +32,9 @@ public final class MeanCoats {
     private static final int MOST = 2;
     private static final int NO_RULE = -1;
 
+    // More than any coat lies from any body.
+    private static final int FARTHEST = 1000000;
+
     private static final int MOST_BODIES = 12;
     private static final int MOST_BRIBE = 20;
     private static final int MOST_PINS = 99;
@@ -267,7 +270,7 @@ public final class MeanCoats {
             return finding(NONE);
         }
         int found = 0;
-        int least = Integer.MAX_VALUE;
+        int least = FARTHEST;
         for (int b = 0; b < town.bodies; b++) {
             if (b != body && town.isHere(b) && tailor.farOfPair(town, body, b) < least) {
                 least = tailor.farOfPair(town, body, b);
@@ -794,7 +797,7 @@ public final class MeanCoats {
     /** The coat must have been cut; the body is left shown by the last bribe that was tried. */
     private int bestBribe(int body) {
         int found = 0;
-        int least = Integer.MAX_VALUE;
+        int least = FARTHEST;
         // 0, -1, 1, -2, 2 and so on: the first of several is the one that is told.
         for (int i = 0; i <= 2 * MOST_BRIBE; i++) {
             int bribe = i % 2 == 0 ? i / 2 : -(i + 1) / 2;
