@@ -361,6 +361,25 @@ public final class EdgesTest {
         due("31 no finding", x.status(-1), 1);
     }
 
+    /** Of two bodies each of the three sets alone, told by what is in it. */
+    private static void smallestSets() {
+        for (int set = 1; set <= 3; set++) {
+            MeanCoats x = wides(0, 100, 0, 140);
+            x.here(0, (set & 1) != 0);
+            x.here(1, (set & 2) != 0);
+            x.spring();
+            due("31 one set", x.lived(0), 1);
+            due("32 in all of " + set, x.surely(0, 0), set);
+            due("32 in any of " + set, x.surely(0, 1), set);
+        }
+        MeanCoats one = wides(0, 100);
+        one.spring();
+        due("31 the only set of one", one.lived(0), 1);
+        due("32 the only set of one", one.surely(0, 0), 1);
+        one.change(0, 2, 101);
+        due("31 not that of none", one.lived(0), 0);
+    }
+
     private static int stepped(int z, int draws) {
         int next = z;
         for (int i = 0; i < draws; i++) next = next * 1103515245 + 12345;
@@ -394,6 +413,11 @@ public final class EdgesTest {
                 noFindings("33", x);
             }
         }
+        MeanCoats unlike = new MeanCoats();
+        Towns.man(unlike, 6, 250, 50, 150);
+        unlike.change(0, 4, -20);
+        unlike.seed(123);
+        due("33 below 50 and above 250", unlike.odds(30), sameOf(123, 30));
         MeanCoats three = wides(0, 100, 0, 100, 0, 100);
         three.here(1, false);
         three.odds(1);
@@ -603,6 +627,7 @@ public final class EdgesTest {
         due("2 the first again", x.body(0), 0);
         due("2 as a new one", x.bodyOf(0, 0), 0);
         due("10 a new coat", x.coat(0), 100);
+        allUndone();
         MeanCoats full = Towns.full();
         full.image();
         full.wipe();
@@ -615,6 +640,27 @@ public final class EdgesTest {
         due("47 torn", full.tear(), 1);
         due("47 not twice", full.tear(), 0);
         due("46 none", full.undo(), Towns.NONE);
+    }
+
+    /** Of twelve bodies all that can be changed is changed, and comes back. */
+    private static void allUndone() {
+        int[] other = {3, 201, 202, 203, 13, 14};
+        MeanCoats x = new MeanCoats();
+        for (int b = 0; b < 12; b++) {
+            Towns.man(x, b % 7, 60 + b, 80 + b, 100 + b);
+            x.change(b, 4, b);
+            x.change(b, 5, 20 + b);
+        }
+        x.image();
+        for (int b = 0; b < 12; b++) {
+            for (int what = 0; what <= 5; what++) x.change(b, what, other[what]);
+            x.here(b, false);
+        }
+        due("46 twelve", x.undo(), 12);
+        for (int b = 0; b < 12; b++) {
+            int[] was = {b % 7, 60 + b, 80 + b, 100 + b, b, 20 + b, 1};
+            for (int what = 0; what <= 6; what++) due("46 body " + b + " " + what, x.bodyOf(b, what), was[what]);
+        }
     }
 
     private static void statusEdges() {
@@ -652,6 +698,7 @@ public final class EdgesTest {
         bribing();
         roundsByNumbers();
         springs();
+        smallestSets();
         draws();
         tapes();
         spots();
