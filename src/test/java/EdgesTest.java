@@ -198,6 +198,20 @@ public final class EdgesTest {
         due("15 nobody's", rich.fines(), 0);
     }
 
+    private static void worstByCost() {
+        MeanCoats x = wides(0, 100, 0, 120, 0, 200);
+        due("17 the farthest", x.worst(), 2);
+        x.change(2, 5, 19);
+        due("17 41 against 40", x.worst(), 2);
+        x.change(2, 5, 20);
+        due("17 40 against 40: the first", x.worst(), 0);
+        x.change(2, 5, 99);
+        due("17 by cost, not by how far", x.worst(), 0);
+        x.here(0, false);
+        x.here(1, false);
+        due("17 the last, at 0", x.worst(), 2);
+    }
+
     // ---- whom to send away
 
     private static void sending() {
@@ -268,6 +282,22 @@ public final class EdgesTest {
         due("24 just as the other", x.sized(0, 1), 249);
         due("24 another measure", x.sized(0, 0), 50);
         due("24 it stays", x.bodyOf(0, 2), 100);
+        int[][] byEaseAndRule = {{18, 0, 86}, {18, 1, 102}, {20, 1, 80}, {20, 2, 100}};
+        for (int[] row : byEaseAndRule) {
+            MeanCoats three = wides(0, 150, 0, 100, 0, 120);
+            three.ease(row[0]);
+            three.rule(row[1]);
+            due("24 by ease " + row[0] + " and rule " + row[1], three.sized(0, 1), row[2]);
+        }
+        for (int kind = 0; kind <= 6; kind++) {
+            MeanCoats of = wides(kind, 120, 0, 100);
+            of.change(0, 4, 9);
+            for (int m = 0; m <= 2; m++) {
+                of.sized(0, m);
+                of.sways(0, m);
+                due("24 and 23: it stays as it is", of.bodyOf(0, 1 + m), m == 1 ? 120 : 100);
+            }
+        }
         MeanCoats thin = wides(5, 100, 0, 100);
         thin.ease(0);
         thin.here(1, false);
@@ -422,6 +452,11 @@ public final class EdgesTest {
         three.here(1, false);
         three.odds(1);
         due("33 six draws of two who are here", three.count(5), stepped(1, 6));
+        MeanCoats last = wides(0, 200, 0, 150, 3, 100);
+        last.here(0, false);
+        last.here(1, false);
+        last.seed(77);
+        due("33 the last alone is here", last.odds(30), sameOf(77, 30));
         MeanCoats away = wides(0, 100);
         away.here(0, false);
         away.odds(30);
@@ -692,6 +727,7 @@ public final class EdgesTest {
         cutQuotients();
         lowestTerms();
         fitEdges();
+        worstByCost();
         sending();
         swaying();
         sizing();
