@@ -125,6 +125,9 @@ public final class EdgesTest {
         pair.here(0, false);
         pair.here(1, false);
         due("18 half, cut, above the coat", pair.marry(0, 1), 49);
+        pair.change(0, 2, 101);
+        pair.change(1, 2, 103);
+        due("18 half of the sum, not of each", pair.marry(0, 1), 98);
         int[] middles = {7, 7, 8, 8, 9, 9, 10, 10, 11, 11, 12, 12};
         MeanCoats row = new MeanCoats();
         row.rule(1);
@@ -198,6 +201,26 @@ public final class EdgesTest {
         due("15 nobody's", rich.fines(), 0);
     }
 
+    /** COUNTS cut THE COAT; elsewhere a GIANT is one BODY: three bodies' worth of fits would do otherwise here. */
+    private static void bodiesNotCounts() {
+        MeanCoats x = wides(4, 50, 0, 100, 0, 100, 0, 250);
+        x.ease(2);
+        due("10 by counts, long", x.coat(0), 101);
+        due("10 by counts, wide", x.coat(1), 100);
+        due("13 fits", x.fits(), 2 + 4);
+        due("48 those here", x.count(1), 4);
+        due("48 those that fit", x.count(2), 2);
+        due("14 costs", x.costs(), 51 + 1 + 1 + 151);
+        due("21 two by the mean, the giant by the middle", x.best(), 0);
+        due("20 two fit, else the giant alone", x.send(12), 0);
+        due("24 so that two fit, not the giant alone", x.sized(0, 1), 50);
+        x.rule(1);
+        due("48 the giant fits", x.count(2), 1);
+        x.change(0, 5, 7);
+        due("15 its pins once", x.fines(), 7);
+        due("9 the giant once", x.famine(50), 3);
+    }
+
     private static void worstByCost() {
         MeanCoats x = wides(0, 100, 0, 120, 0, 200);
         due("17 the farthest", x.worst(), 2);
@@ -210,6 +233,38 @@ public final class EdgesTest {
         x.here(0, false);
         x.here(1, false);
         due("17 the last, at 0", x.worst(), 2);
+    }
+
+    /** Of those HERE alone, never itself, as they are, the half being cut. */
+    private static void brides() {
+        MeanCoats x = wides(0, 100, 0, 100, 0, 108, 0, 90);
+        x.rule(1);
+        x.ease(0);
+        due("10 the coat", x.coat(1), 100);
+        due("19 who is just as the coat", x.bride(0), 1);
+        x.here(1, false);
+        due("19 not one that is away", x.bride(0), 2);
+        due("18 of that one", x.marry(0, 2), 4);
+        due("18 not of this one", x.marry(0, 3), 5);
+        due("19 one that is away itself", x.bride(1), 0);
+        due("19 the farther off, the nearer together", x.bride(2), 3);
+        x.change(2, 5, 99);
+        x.change(3, 5, 99);
+        due("19 whatever pins", x.bride(0), 2);
+        MeanCoats half = wides(0, 100, 0, 101, 0, 99);
+        half.rule(1);
+        due("19 cut: both halves are as near", half.bride(0), 1);
+        half.change(2, 2, 98);
+        due("18 cut to 100", half.marry(0, 1), 0);
+        due("18 cut to 99", half.marry(0, 2), 1);
+        MeanCoats thin = wides(0, 100, 5, 104, 0, 106);
+        thin.rule(1);
+        due("10 the coat, as measured", thin.coat(1), 100);
+        due("19 as they are, not as they are measured", thin.bride(0), 1);
+        thin.change(1, 2, 109);
+        due("10 the coat, as measured", thin.coat(1), 100);
+        due("19 as they are, not as they are measured", thin.bride(0), 2);
+        due("18 as they are", thin.marry(0, 1), 4);
     }
 
     // ---- whom to send away
@@ -391,6 +446,22 @@ public final class EdgesTest {
         due("31 no finding", x.status(-1), 1);
     }
 
+    /** THE COAT may be as far off as what is MEASURED. */
+    private static void springsBeyond() {
+        MeanCoats x = wides(6, 50);
+        x.change(0, 4, -20);
+        x.spring();
+        due("30 below 50", x.old(0, 1), 10);
+        MeanCoats giant = new MeanCoats();
+        Towns.man(giant, 4, 250, 250, 250);
+        giant.spring();
+        due("30 above 250", giant.old(0, 0), 252);
+        due("31 by itself", giant.lived(0), 1);
+        giant.change(0, 0, 0);
+        due("31 as it is now", giant.lived(0), 0);
+        due("30 as it was then", giant.old(0, 0), 252);
+    }
+
     /** Of two bodies each of the three sets alone, told by what is in it. */
     private static void smallestSets() {
         for (int set = 1; set <= 3; set++) {
@@ -448,6 +519,7 @@ public final class EdgesTest {
         unlike.change(0, 4, -20);
         unlike.seed(123);
         due("33 below 50 and above 250", unlike.odds(30), sameOf(123, 30));
+        drawsByBodies();
         MeanCoats three = wides(0, 100, 0, 100, 0, 100);
         three.here(1, false);
         three.odds(1);
@@ -461,6 +533,31 @@ public final class EdgesTest {
         away.here(0, false);
         away.odds(30);
         due("33 none of nobody", away.count(5), 1);
+    }
+
+    /** The coat's LONG and ARM are of body 1, its WIDE is of body 2: of six draws the first, third and fifth tell. */
+    private static void drawsByBodies() {
+        for (int z = -40; z < 40; z++) {
+            MeanCoats x = new MeanCoats();
+            Towns.man(x, 0, 250, 250, 250);
+            Towns.man(x, 4, 200, 60, 200);
+            Towns.man(x, 3, 100, 100, 100);
+            x.here(0, false);
+            x.rule(2);
+            x.seed(z * 7654321);
+            int same = 0;
+            int next = z * 7654321;
+            for (int i = 0; i < 30; i++) {
+                int rests = 0;
+                for (int k = 0; k < 6; k++) {
+                    next = stepped(next, 1);
+                    boolean counts = k == 0 || k == 2 || k == 4;
+                    rests += counts && (next >>> 8) % 3 != 1 ? 1 : 0;
+                }
+                same += rests == 0 ? 1 : 0;
+            }
+            due("33 by bodies, by measures, z " + z, x.odds(30), same);
+        }
     }
 
     // ---- tapes, spots, sheets
@@ -727,13 +824,16 @@ public final class EdgesTest {
         cutQuotients();
         lowestTerms();
         fitEdges();
+        bodiesNotCounts();
         worstByCost();
+        brides();
         sending();
         swaying();
         sizing();
         bribing();
         roundsByNumbers();
         springs();
+        springsBeyond();
         smallestSets();
         draws();
         tapes();

@@ -27,6 +27,8 @@ public final class LanguageTest {
         "copy(int,int,int,int,int)", "load(int)", "judge(int)", "image()", "undo()", "tear()", "count(int)",
         "status(int)",
     };
+    private static final List<String> CONSTANTS = List.of("int", "long", "boolean", "char", "String", "int[]", "long[]",
+        "char[]", "byte[]");
     private static int wrong = 0;
 
     private static void hold(boolean holds, String what) {
@@ -66,6 +68,7 @@ public final class LanguageTest {
         for (Field field : some.getDeclaredFields()) {
             if (Modifier.isStatic(field.getModifiers())) {
                 hold(Modifier.isFinal(field.getModifiers()), "static, not final: " + field);
+                hold(CONSTANTS.contains(field.getType().getSimpleName()), "static, no constant: " + field);
             } else {
                 fields++;
             }

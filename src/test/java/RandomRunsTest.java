@@ -10,7 +10,7 @@ public final class RandomRunsTest {
     private static int wrong = 0;
     private static int calls = 0;
 
-    /** What each argument is drawn from: b a body, v a value to change to, a range, or is: yes or no. */
+    /** What each argument is drawn from: b a body, v a value to change to, n a number, a range, is: yes or no. */
     private static final String[][] ACTS = {
         {"body", "0:6"}, {"bodyOf", "b", "0:10"}, {"change", "b", "0:5", "v"}, {"here", "b", "is"},
         {"rule", "0:2"}, {"ease", "0:999"}, {"price", "0:99"}, {"famine", "1:50"},
@@ -20,7 +20,7 @@ public final class RandomRunsTest {
         {"bribe", "b"}, {"settled"}, {"rounds", "1:20"}, {"settles"},
         {"spring"}, {"old", "s", "0:2"}, {"lived", "s"}, {"surely", "s", "0:1"}, {"odds", "1:30"}, {"seed", "any"},
         {"feed", "any", "1:4"}, {"wipe"}, {"text"},
-        {"hold", "0:9", "b"}, {"as", "0:9", "0:6"}, {"sheet", "0:3", "bits", "0:40"}, {"write", "0:3", "0:12", "v"},
+        {"hold", "0:9", "b"}, {"as", "0:9", "0:6"}, {"sheet", "0:3", "bits", "0:40"}, {"write", "0:3", "0:12", "n"},
         {"copy", "0:3", "0:12", "0:3", "0:12", "0:12"}, {"load", "0:3"}, {"judge", "0:3"},
         {"image"}, {"undo"}, {"tear"}, {"count", "0:6"}, {"status", "-1:6"},
     };
@@ -56,6 +56,8 @@ public final class RandomRunsTest {
                 return drawFrom(0, Math.max(0, plain.now.springs.size() - 1));
             case "v":
                 return drawValue(before.length > 1 && before[1] instanceof Integer what ? what : 1);
+            case "n":
+                return draw(6) == 0 ? draw(1 << 17) - (1 << 16) : drawValue(1);
             case "is":
                 return draw(3) > 0;
             case "any":

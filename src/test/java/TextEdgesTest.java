@@ -237,12 +237,31 @@ public final class TextEdgesTest {
         Towns.due("37 empty then", x.wipe(), 0);
     }
 
+    /** A WORD goes on by the letters a to z alone, a NUMBER by digits alone: each byte close behind and between them. */
+    private static void eachByteBehind() {
+        for (int b = 0; b <= 255; b++) {
+            boolean isLetter = b >= 'a' && b <= 'z';
+            boolean isDigit = b >= '0' && b <= '9';
+            MeanCoats x = new MeanCoats();
+            int want = isLetter ? -1 - 5 : b == ' ' ? 1 : b == ';' ? -1 - 10 : -1 - 9;
+            Towns.due("37 byte " + b + " behind a word", read(x, "rule most" + (char) b), want);
+            int between = isLetter ? -1 : isDigit || b == ' ' ? 1 : -1 - 4;
+            Towns.due("37 byte " + b + " between word and number", read(x, "ease" + (char) b + "5"), between);
+            int ease = isDigit ? 10 * (b - '0') + 5 : b == ' ' ? 5 : 20;
+            Towns.due("37 byte " + b + ": ease", x.ease(20), ease);
+            Towns.due("37 byte " + b + " within a word", read(x, "ea" + (char) b + "se 5"), -1);
+            int after = b == ' ' || b == ';' ? -1 - 7 : isDigit ? 1 : -1 - 6;
+            Towns.due("37 byte " + b + " within a number", read(x, "ease 1" + (char) b + "7"), after);
+        }
+    }
+
     public static void main(String[] args) {
         allThatFollows();
         closeTogether();
         itemByItem();
         thirteenth();
         ends();
+        eachByteBehind();
         Towns.end();
     }
 }

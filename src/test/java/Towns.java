@@ -1,5 +1,8 @@
 import java.util.ArrayList;
+import java.util.LinkedHashMap;
 import java.util.List;
+import java.util.Map;
+import java.util.TreeSet;
 
 /** Towns for the tests, and all that can be asked of one, part by part (to ask spends the town). */
 final class Towns {
@@ -38,6 +41,18 @@ final class Towns {
     static void dueAll(String what, List<Integer> got, List<Integer> want) {
         due(what + ": how many", got.size(), want.size());
         for (int i = 0; i < got.size() && i < want.size(); i++) due(what + " [" + i + "]", got.get(i), want.get(i));
+    }
+
+    static void dueAll(String what, Map<String, Integer> got, Map<String, Integer> want) {
+        checked += want.size();
+        if (got.equals(want)) return;
+        TreeSet<String> names = new TreeSet<>(got.keySet());
+        names.addAll(want.keySet());
+        for (String name : names) {
+            if (want.containsKey(name) && got.containsKey(name) && want.get(name).equals(got.get(name))) continue;
+            wrong++;
+            System.out.println(what + ": " + name + " is " + got.get(name) + ", due is " + want.get(name));
+        }
     }
 
     static void end() {
@@ -125,72 +140,111 @@ final class Towns {
     }
 
     static List<Integer> bodies(MeanCoats x) {
-        List<Integer> told = new ArrayList<>();
-        int bodies = x.count(0);
-        for (int b = 0; b < bodies; b++) for (int what = 0; what <= 7; what++) told.add(x.bodyOf(b, what));
-        return told;
+        Map<String, Integer> told = new LinkedHashMap<>();
+        tellBodies(x, "", told);
+        return new ArrayList<>(told.values());
     }
 
-    /** Part 0: the town. 1: its sheets. 2: the tape. 3: the image. */
-    static List<Integer> tell(MeanCoats x, int part) {
+    /** Part 0: the town. 1: its sheets. 2: the tape. 3: the image. Each answer by the name of what it tells. */
+    static Map<String, Integer> tell(MeanCoats x, int part) {
+        Map<String, Integer> told = new LinkedHashMap<>();
         switch (part) {
             case 0:
-                return town(x);
+                tellTown(x, "", told);
+                break;
             case 1:
-                return sheetsOf(x);
+                tellSheets(x, told);
+                break;
             case 2:
-                return tapeOf(x);
+                tellTape(x, told);
+                break;
             default:
-                return imageOf(x);
+                tellImage(x, told);
+                break;
+        }
+        return told;
+    }
+
+    /** All parts: each of a town made and, if there is something to do, changed anew. */
+    static Map<String, Integer> tellAll(Maker maker, Call call) {
+        Map<String, Integer> told = new LinkedHashMap<>();
+        for (int part = 0; part < PARTS; part++) {
+            MeanCoats x = maker.make();
+            if (call != null) call.on(x);
+            told.putAll(tell(x, part));
+        }
+        return told;
+    }
+
+    private static void tellBodies(MeanCoats x, String ahead, Map<String, Integer> told) {
+        int bodies = x.count(0);
+        for (int b = 0; b < bodies; b++) {
+            for (int what = 0; what <= 7; what++) told.put(ahead + "body " + b + " " + what, x.bodyOf(b, what));
         }
     }
 
-    private static List<Integer> town(MeanCoats x) {
-        List<Integer> told = bodies(x);
-        for (int what = 0; what <= 6; what++) told.add(x.count(what));
+    private static void tellTown(MeanCoats x, String ahead, Map<String, Integer> told) {
+        tellBodies(x, ahead, told);
+        // How many FIT is left out: nobody keeps it.
+        for (int what : new int[] {0, 1, 3, 5, 6}) told.put(ahead + "count " + what, x.count(what));
         int springs = x.count(3);
-        for (int i = 0; i < springs; i++) for (int m = 0; m <= 2; m++) told.add(x.old(i, m));
-        for (int spot = 0; spot <= 9; spot++) told.add(x.as(spot, 0));
-        told.add(x.rule(0));
-        told.add(x.ease(0));
-        told.add(x.price(0));
-        return told;
+        for (int i = 0; i < springs; i++) for (int m = 0; m <= 2; m++) told.put(ahead + "old " + i + " " + m, x.old(i, m));
+        for (int spot = 0; spot <= 9; spot++) told.put(ahead + "spot " + spot, x.as(spot, 0));
+        told.put(ahead + "rule", x.rule(0));
+        told.put(ahead + "ease", x.ease(0));
+        told.put(ahead + "price", x.price(0));
     }
 
-    private static List<Integer> sheetsOf(MeanCoats x) {
-        List<Integer> told = new ArrayList<>();
-        while (x.count(0) < 12) x.body(0);
+    private static void tellSheets(MeanCoats x, Map<String, Integer> told) {
+        if (x.count(0) == 0) x.body(0);
         for (int s = 0; s <= 3; s++) {
-            told.add(x.load(s));
-            for (int b = 0; b < 12; b++) for (int what = 1; what <= 3; what++) told.add(x.bodyOf(b, what));
-            for (int i = 36; i <= 40; i++) told.add(x.write(s, i, 0));
+            String sheet = "sheet " + s;
+            boolean isMissing = x.load(s) == MISSING;
+            int n = isMissing ? -1 : lengthOf(x, s);
+            told.put(sheet + " length", n);
+            for (int i = 0; i < n; i++) told.put(sheet + " number " + i, numberOf(x, s, i));
+            told.put(sheet + " bits", n < 3 ? -1 : bitsOf(x, s));
         }
-        for (int s = 0; s <= 3; s++) {
-            // The lowest 8 bits of the one and the lowest 16 of the other tell 100: so how many bits there are.
-            told.add(x.write(s, 1, 256 + 100));
-            told.add(x.load(s));
-            told.add(x.write(s, 1, 65536 + 100));
-            told.add(x.load(s));
-            for (int i = 5; i <= 7; i++) told.add(x.write(s, i, 0));
-        }
-        return told;
     }
 
-    private static List<Integer> tapeOf(MeanCoats x) {
-        List<Integer> told = new ArrayList<>();
-        told.add(x.count(4));
-        while (x.count(4) > 0 && x.count(4) < 116) x.feed(0x20202020, 4);
-        told.add(x.text());
-        told.add(x.count(4));
-        told.add(x.ease(0));
-        return told;
+    private static int lengthOf(MeanCoats x, int s) {
+        int n = 0;
+        while (n < 100 && x.copy(s, 0, s, 0, n + 1) == n + 1) n++;
+        return n;
     }
 
-    private static List<Integer> imageOf(MeanCoats x) {
-        List<Integer> told = new ArrayList<>();
-        told.add(x.undo());
-        told.addAll(town(x));
-        told.add(x.tear());
-        return told;
+    /** -1 where it isn't 50 to 250, or can't be told. Numbers 0 to 2 must be asked for first: these make room then. */
+    private static int numberOf(MeanCoats x, int s, int i) {
+        if (i >= 3) {
+            x.copy(s, i, s, 0, 1);
+            x.write(s, 1, 100);
+            x.write(s, 2, 100);
+        }
+        return x.load(s) > 0 ? x.bodyOf(0, i < 3 ? 1 + i : 1) : -1;
+    }
+
+    /** The lowest 8 bits of the one and the lowest 16 of the other tell 100. */
+    private static int bitsOf(MeanCoats x, int s) {
+        x.write(s, 1, 100);
+        x.write(s, 2, 100);
+        x.write(s, 0, 256 + 100);
+        if (x.load(s) > 0) return 8;
+        x.write(s, 0, 65536 + 100);
+        return x.load(s) > 0 ? 16 : 32;
+    }
+
+    private static void tellTape(MeanCoats x, Map<String, Integer> told) {
+        told.put("tape bytes", x.count(4));
+        feedAll(x, "e 5");
+        told.put("tape text", x.text());
+        told.put("tape left", x.count(4));
+        told.put("tape ease", x.ease(0));
+        told.put("tape price", x.price(0));
+    }
+
+    private static void tellImage(MeanCoats x, Map<String, Integer> told) {
+        told.put("kept", x.undo());
+        if (told.get("kept") >= 0) tellTown(x, "kept ", told);
+        told.put("kept torn", x.tear());
     }
 }
