@@ -286,6 +286,7 @@ public final class ChangesTest {
     private static void becomes(String what, Towns.Maker town, int answer, Towns.Call call, Map<String, Integer> want) {
         Towns.due(what, call.on(town.make()), answer);
         Towns.dueAll(what, Towns.tellAll(town, call), want);
+        counted(what, town, call);
     }
 
     private static void changeAll(MeanCoats x) {
